@@ -22,7 +22,7 @@ public final class CurrentFarms {
 
     private static final int WOOD = 1, ROAD = 2, WATER = 3;
 
-    private static final int SIGNED = 0, WAVERING = 1, SERVED = 2, TAKEN = 4, STRUCK = 5;
+    private static final int SIGNED = 0, WAVERING = 1, SERVED = 2, CUT = 3, TAKEN = 4, STRUCK = 5;
 
     private static final int KIND_FARM = 0, KIND_MEMBER = 1, KIND_WAVERING = 2;
     private static final int KIND_SERVED = 3, KIND_OWING = 4, KIND_GONE = 5, KINDS = 6;
@@ -31,17 +31,25 @@ public final class CurrentFarms {
 
     private static final int UNITS = 0, LOAD = 1, KIND = 2, OWED = 3, MILES = 4, NAMES = 5;
 
-    private final State here = new State();
-    private final State kept = new State();
+    private final State here;
+    private final State kept;
     private boolean imaged;
-    private final Reader reader = new Reader(here.rules);
-    private final Account account = new Account(here);
-    private final Ways ways = new Ways(here.land);
-    private final Volts volts = new Volts(here);
+    private final Reader reader;
+    private final Account account;
+    private final Ways ways;
+    private final Volts volts;
     /** THE LINE as it would be while tried() brings farms in one by one. */
-    private final Line trial = new Line();
+    private final Line trial;
 
     public CurrentFarms() {
+        State state = new State();
+        here = state;
+        kept = new State();
+        reader = new Reader(state.rules);
+        account = new Account(state);
+        ways = new Ways(state.land);
+        volts = new Volts(state);
+        trial = new Line();
     }
 
     // ---- land, farms
@@ -104,22 +112,19 @@ public final class CurrentFarms {
     public int as(int farm, int month, int e) {
         if (!isFarm(farm) || !isBefore(e)) return NONE;
         if (!within(month, 0, LAST_MONTH)) return BAD;
-        here.book.lookBack(e);
-        int kind = here.book.kindIn(farm, month);
-        here.book.lookBack(-1);
-        return owing(farm, month, kind);
+        return owing(farm, month, here.book.kindIn(farm, month, e));
     }
 
     public int many(int k, int month, int e) {
         if (!within(k, 0, KINDS - 1) || !isBefore(e)) return NONE;
         if (!within(month, 0, LAST_MONTH)) return BAD;
-        here.book.lookBack(e);
-        int bits = 0;
+        int n = 0;
         for (int f = 0; f < here.land.farms; f++) {
-            if (isUnder(here.book.kindIn(f, month), k)) bits |= 1 << f;
+            int kind = here.book.kindIn(f, month, e);
+            if (k == KIND_OWING) kind = owing(f, month, kind);
+            if (isUnder(kind, k)) n++;
         }
-        here.book.lookBack(-1);
-        return k == KIND_OWING ? owingOf(bits, month) : Integer.bitCount(bits);
+        return n;
     }
 
     public int tip(int farm) {
@@ -248,7 +253,7 @@ public final class CurrentFarms {
     public int read(int farm, int month, int n) {
         if (!isFarm(farm) || !isPast(month)) return NONE;
         if (!within(n, 0, 9999)) return BAD;
-        if (!here.book.isServed(farm, month)) return STATE;
+        if (here.book.kindIn(farm, month, -1) != KIND_SERVED) return STATE;
         int was = here.coins.readOf(farm, month);
         put(here.coins.reads, slot(farm, month), n);
         return was;
@@ -322,10 +327,10 @@ public final class CurrentFarms {
         if (!isCell(a) || !isCell(b) || !within(what, 0, 1)) return NONE;
         if (!isOnLine(a) || !isOnLine(b)) return STATE;
         int along = here.land.farmsOn(here.line.between(a, b));
+        along &= ~here.book.decidedBy(TAKEN, here.now);
         int taken = 0;
         for (int f = 0; f < here.land.farms; f++) {
-            boolean gone = here.book.decider(f, here.now) == TAKEN;
-            if (holds(along, f) && !gone && account.ruled(TAKE, f, here.now, 0) == 0) taken |= 1 << f;
+            if (holds(along, f) && account.ruled(TAKE, f, here.now, 0) == 0) taken |= 1 << f;
         }
         if (what == 0) return Integer.bitCount(taken);
         return flag(!isEnough(here.book.membersIn(here.now, 0, taken)));
@@ -403,18 +408,11 @@ public final class CurrentFarms {
         return within(month, 0, LAST_MONTH) && within(units, 0, 9999) ? 0 : BAD;
     }
 
+    /** The KIND again, which may be OWING where it is SERVED. */
     private int owing(int farm, int month, int kind) {
         if (kind != KIND_SERVED) return kind;
         account.walk(farm, month);
         return account.arrears > 0 ? KIND_OWING : KIND_SERVED;
-    }
-
-    private int owingOf(int served, int month) {
-        int n = 0;
-        for (int f = 0; f < FARMS; f++) {
-            if (holds(served, f) && owing(f, month, KIND_SERVED) == KIND_OWING) n++;
-        }
-        return n;
     }
 
     private boolean isEnough(int members) {
@@ -502,11 +500,10 @@ public final class CurrentFarms {
         return is ? farm * MONTHS + month : -1;
     }
 
-    /** Whether a KIND is k or one under that; a SERVED one may be OWING, so it passes for both. */
+    /** Whether a KIND is k or one under that; OWING may be told as SERVED where k isn't OWING. */
     private static boolean isUnder(int kind, int k) {
         if (k == KIND_FARM || kind == k) return true;
-        if (k == KIND_MEMBER) return kind == KIND_SERVED;
-        return k == KIND_OWING && kind == KIND_SERVED;
+        return k == KIND_MEMBER && kind == KIND_SERVED;
     }
 
     // ---- what THE IMAGE holds
@@ -584,7 +581,7 @@ public final class CurrentFarms {
         }
     }
 
-    /** ==== 2: ENTRIES, and what decides of each FARM in each MONTH. */
+    /** ==== 2: ENTRIES, and the KINDS of FARMS by them. */
     private static final class Book {
         final int[] farms = new int[ENTRIES];
         final int[] whats = new int[ENTRIES];
@@ -593,10 +590,8 @@ public final class CurrentFarms {
         /** The ENTRY that struck one; 0: none, as ENTRY 0 has none ahead to strike. */
         final int[] strikers = new int[ENTRIES];
         int size;
-        /** The deciding ENTRY and 1 (0: none): by all ENTRIES, but while as() and many() look back. */
-        final int[] deciders = new int[FARMS * MONTHS];
-        /** By how many ENTRIES the deciders stand. */
-        private int seen;
+        /** For each FARM the ENTRY that decides in the MONTH looked at last; -1: none. */
+        private final int[] deciders = new int[FARMS];
 
         void take(Book other) {
             copy(other.farms, farms);
@@ -604,9 +599,7 @@ public final class CurrentFarms {
             copy(other.months, months);
             copy(other.needs, needs);
             copy(other.strikers, strikers);
-            copy(other.deciders, deciders);
             size = other.size;
-            seen = other.seen;
         }
 
         int enter(int farm, int what, int month, int need) {
@@ -616,7 +609,6 @@ public final class CurrentFarms {
             put(needs, size, need);
             put(strikers, size, 0);
             size++;
-            lookBack(-1);
             return size - 1;
         }
 
@@ -629,69 +621,75 @@ public final class CurrentFarms {
             return at(whats, entry) != STRUCK && at(strikers, entry) == 0;
         }
 
-        /** Finds what decides by the first e ENTRIES (-1: all). */
-        void lookBack(int e) {
+        /** Finds what decides in a MONTH by the first e ENTRIES (-1: all). */
+        private void look(int month, int e) {
             int known = e < 0 ? size : e;
-            if (known == seen) return;
-            seen = known;
-            Arrays.fill(deciders, 0);
+            Arrays.fill(deciders, -1);
             for (int i = 0; i < known; i++) {
-                int striker = at(strikers, i);
-                boolean struck = striker > 0 && striker < known;
-                int place = slot(at(farms, i), at(months, i));
-                if (at(whats, i) != STRUCK && !struck) put(deciders, place, i + 1);
-            }
-            for (int f = 0; f < FARMS; f++) {
-                for (int m = 1; m < MONTHS; m++) {
-                    int place = slot(f, m);
-                    if (at(deciders, place) == 0) put(deciders, place, at(deciders, place - 1));
-                }
+                int striker = at(strikers, i), farm = at(farms, i);
+                boolean stands = at(whats, i) != STRUCK && (striker == 0 || striker >= known);
+                if (!stands || at(months, i) > month) continue;
+                int was = at(deciders, farm);
+                if (was < 0 || at(months, i) >= at(months, was)) put(deciders, farm, i);
             }
         }
 
         /** What the deciding ENTRY is; -1: there is none. */
-        int decider(int farm, int month) {
-            int entry = at(deciders, slot(farm, month)) - 1;
+        private int decided(int farm) {
+            int entry = at(deciders, farm);
             return entry < 0 ? -1 : at(whats, entry);
         }
 
-        boolean isServed(int farm, int month) {
-            return decider(farm, month) == SERVED;
-        }
-
-        /** MEMBERS of a MONTH as bits, if some FARMS were SIGNED and others TAKEN then. */
-        int membersIn(int month, int signed, int taken) {
-            int members = signed, waverers = 0;
-            for (int f = 0; f < FARMS; f++) {
-                int what = decider(f, month);
-                if (what == WAVERING) waverers |= 1 << f;
-                else if (what >= 0 && what != TAKEN) members |= 1 << f;
-            }
-            members &= ~taken;
-            waverers &= ~taken;
-            for (int round = 0; round < FARMS; round++) {
-                members |= reached(waverers, month, Integer.bitCount(members));
-            }
-            return members;
-        }
-
-        private int reached(int waverers, int month, int members) {
+        /** FARMS as bits of which such an ENTRY decides in a MONTH. */
+        int decidedBy(int what, int month) {
+            look(month, -1);
             int bits = 0;
             for (int f = 0; f < FARMS; f++) {
-                int entry = at(deciders, slot(f, month)) - 1;
-                if (holds(waverers, f) && at(needs, entry) <= members) bits |= 1 << f;
+                if (decided(f) == what) bits |= 1 << f;
             }
             return bits;
         }
 
-        /** KIND of a FARM in a MONTH, OWING as SERVED. */
-        int kindIn(int farm, int month) {
-            int what = decider(farm, month);
-            if (what < 0) return KIND_FARM;
-            if (what == SERVED) return KIND_SERVED;
-            if (what == TAKEN) return KIND_GONE;
-            if (what != WAVERING) return KIND_MEMBER;
-            return holds(membersIn(month, 0, 0), farm) ? KIND_MEMBER : KIND_WAVERING;
+        /** MEMBERS of a MONTH as bits, if some FARMS were SIGNED and others TAKEN then. */
+        int membersIn(int month, int signed, int taken) {
+            look(month, -1);
+            return members(signed, taken);
+        }
+
+        private int members(int signed, int taken) {
+            int members = signed;
+            for (int f = 0; f < FARMS; f++) {
+                int what = decided(f);
+                if (what == SIGNED || what == SERVED || what == CUT) members |= 1 << f;
+            }
+            members &= ~taken;
+            for (int round = 0; round < FARMS; round++) {
+                members |= reached(Integer.bitCount(members)) & ~taken;
+            }
+            return members;
+        }
+
+        /** WAVERING FARMS as bits for which so many MEMBERS are enough. */
+        private int reached(int members) {
+            int bits = 0;
+            for (int f = 0; f < FARMS; f++) {
+                int entry = at(deciders, f);
+                boolean wavers = entry >= 0 && at(whats, entry) == WAVERING;
+                if (wavers && at(needs, entry) <= members) bits |= 1 << f;
+            }
+            return bits;
+        }
+
+        /** KIND of a FARM in a MONTH by the first e ENTRIES (-1: all), OWING as SERVED. */
+        int kindIn(int farm, int month, int e) {
+            look(month, e);
+            switch (decided(farm)) {
+                case -1: return KIND_FARM;
+                case SERVED: return KIND_SERVED;
+                case TAKEN: return KIND_GONE;
+                case WAVERING: return holds(members(0, 0), farm) ? KIND_MEMBER : KIND_WAVERING;
+                default: return KIND_MEMBER;
+            }
         }
     }
 
@@ -710,7 +708,8 @@ public final class CurrentFarms {
         final int[] middles = new int[(RULES + 1) * CLAUSES];
         final int[] ends = new int[(RULES + 1) * CLAUSES];
         int size;
-        final int[] stack = new int[TAPE];
+        /** ONES stand a sign apart on THE TAPE: it has no room for more of them. */
+        private final int[] stack = new int[TAPE / 2];
         /** By which CLAUSE the last worth came, as why() tells it. */
         int by;
 
@@ -1090,20 +1089,21 @@ public final class CurrentFarms {
             Arrays.fill(volts, 1000);
             settled = false;
             sweeps = 0;
+            int served = state.book.decidedBy(SERVED, state.now);
             for (int i = 0; i < MOST_SWEEPS && !settled; i++) {
-                draw();
+                draw(served);
                 settled = drop() <= 1;
                 sweeps++;
             }
         }
 
         /** What each STRETCH carries, kept at the CELL behind it. */
-        private void draw() {
+        private void draw(int served) {
             Arrays.fill(carried, 0);
             for (int f = 0; f < state.land.farms; f++) {
                 int cell = state.land.cellOf(f);
                 int volt = at(volts, cell);
-                if (volt <= 0 || !state.book.isServed(f, state.now)) continue;
+                if (volt <= 0 || !holds(served, f)) continue;
                 put(carried, cell, at(carried, cell) + parted(at(state.land.loads, f) * 1000, volt));
             }
             for (int i = state.line.size - 1; i >= 0; i--) {
@@ -1229,7 +1229,7 @@ public final class CurrentFarms {
             put(names, LOAD, at(state.land.loads, farm));
             put(names, MILES, state.line.climb(state.land.cellOf(farm)));
             for (int m = 0; m <= month && m < MONTHS; m++) {
-                int kind = state.book.kindIn(farm, m);
+                int kind = state.book.kindIn(farm, m, -1);
                 boolean served = kind == KIND_SERVED;
                 units = served ? metered(state.coins.readOf(farm, m), m) : 0;
                 put(names, UNITS, units);
@@ -1278,7 +1278,7 @@ public final class CurrentFarms {
             if (farm >= 0) {
                 walk(farm, month - 1);
                 put(names, UNITS, told);
-                put(names, KIND, state.book.kindIn(farm, month));
+                put(names, KIND, state.book.kindIn(farm, month, -1));
                 put(names, OWED, arrears);
             }
             return state.rules.worth(word, month, names);
@@ -1320,7 +1320,11 @@ public final class CurrentFarms {
 
         /** Tries all rows from the least on, and keeps the first by which least MILK is lost. */
         void choose(State state) {
-            for (int f = 0; f < FARMS; f++) put(onWay, f, breaksAhead(state, f));
+            int served = state.book.decidedBy(SERVED, state.now);
+            for (int f = 0; f < FARMS; f++) {
+                long way = state.line.upward(state.land.cellOf(f));
+                put(onWay, f, holds(served, f) ? breaksOn(way) : 0);
+            }
             for (int i = 0; i < size; i++) put(row, i, i);
             lost = MOST;
             boolean more = true;
@@ -1334,13 +1338,11 @@ public final class CurrentFarms {
             }
         }
 
-        private int breaksAhead(State state, int farm) {
-            int cell = state.land.cellOf(farm);
-            if (farm >= state.land.farms || !state.book.isServed(farm, state.now)) return 0;
-            long way = state.line.upward(cell);
+        /** BREAKS as bits on CELLS (bits, too). */
+        private int breaksOn(long cells) {
             int bits = 0;
             for (int i = 0; i < size; i++) {
-                if ((way >> at(cells, i) & 1) == 1) bits |= 1 << i;
+                if ((cells >> at(this.cells, i) & 1) == 1) bits |= 1 << i;
             }
             return bits;
         }
