@@ -6,6 +6,7 @@ public final class BookPromises {
         sign();
         signRefused();
         strike();
+        strikeAtOnce();
         kinds();
         whatDecides();
         wavering();
@@ -51,6 +52,15 @@ public final class BookPromises {
         Due.due("n 10", x.sign(0, WAVERING, 5, 10), 1);
     }
 
+    private static void strikeAtOnce() {
+        CurrentFarms x = farms(1, 0);
+        x.sign(0, CUT, 0, 0);
+        Due.due("the first one at once", x.strike(0), 1);
+        Due.due("it is gone", x.as(0, 0, -1), 0);
+        Due.due("by one it is not", x.as(0, 0, 1), 1);
+        Due.due("struck already", x.strike(0), Due.STATE);
+    }
+
     private static void strike() {
         CurrentFarms x = farms(1, 3);
         Due.due("none yet", x.strike(0), Due.NONE);
@@ -77,6 +87,12 @@ public final class BookPromises {
         for (int f = 0; f < 6; f++) Due.due("kind of " + f, x.as(f, 0, -1), due[f]);
         x.pay(2, 0, 9999);
         Due.due("served, and owes nothing", x.as(2, 0, -1), 3);
+        CurrentFarms y = farms(1, 0);
+        y.sign(0, SERVED, 0, 0);
+        y.pay(0, 0, 24);
+        Due.due("one coin", y.as(0, 0, -1), 4);
+        y.pay(0, 0, 1);
+        Due.due("none", y.as(0, 0, -1), 3);
         Due.due("a month to come", x.as(2, 120, -1), 3);
     }
 
@@ -143,6 +159,10 @@ public final class BookPromises {
         for (int k = 0; k < 6; k++) Due.due("many of " + k, x.many(k, 0, -1), due[k]);
         Due.due("farms by none", x.many(0, 0, 0), 7);
         Due.due("members by none", x.many(1, 0, 0), 0);
+        x.sign(0, SERVED, 0, 0);
+        Due.due("two owe", x.many(4, 0, -1), 2);
+        Due.due("three are served", x.many(3, 0, -1), 3);
+        Due.due("by one that is owing by another entry", x.many(4, 0, 1), 0);
     }
 
     private static void refusedOfKinds() {
@@ -184,5 +204,10 @@ public final class BookPromises {
         Due.due("one that counts tips none", x.tip(1), 0);
         Due.due("itself alone", x.tip(3), 1);
         Due.due("tip changes nothing", x.as(3, 2, -1), 2);
+        CurrentFarms y = farms(3, 0);
+        y.sign(2, WAVERING, 0, 1);
+        Due.due("of farm 0", y.tip(0), 2);
+        Due.due("of farm 1", y.tip(1), 2);
+        Due.due("of farm 2", y.tip(2), 1);
     }
 }

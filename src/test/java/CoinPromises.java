@@ -146,7 +146,7 @@ public final class CoinPromises {
         x.pay(1, 2, 9);
         Due.due("one who is not served", x.owe(1, 1), 0);
         Due.due("had to pay nothing", x.owe(1, 4), -9);
-        Due.good(x, 3, "late=kind*10+units unless miles");
+        Due.good(x, 3, "late=kind*10+units*9 unless miles");
         Due.due("late by 30", x.owe(0, 3), 9);
         x.sign(0, CUT, 4, 0);
         Due.due("cut, it goes on being late", x.owe(0, 4), -23);
@@ -249,6 +249,8 @@ public final class CoinPromises {
         Due.due("never", x.cannot(), -5);
         x.loan(0, 10, 5, 3, 0);
         Due.due("nothing lent", x.cannot(), -5);
+        x.loan(5, 100, 0, 1, 4);
+        Due.due("in one month", x.cannot(), 101);
         x.loan(60, 120, 0, 60, 59);
         Due.due("its last month", x.cannot(), 180);
     }

@@ -99,6 +99,9 @@ public final class ImagePromises {
         x.land(7, 1, 2);
         x.line(9, 10);
         x.storm(10, 9);
+        x.line(10, 11);
+        x.storm(11, 9);
+        x.read(0, 2, 50);
         x.span(5);
         x.wire(9);
         x.read(1, 2, 99);

@@ -75,6 +75,9 @@ public final class LandPromises {
         x.land(8, 0, 9);
         Due.due("height", x.cost(0, 8), 28);
         Due.due("height from above", x.cost(8, 0), 28);
+        x.land(0, 0, 7);
+        Due.due("the difference of heights", x.cost(0, 8), 14);
+        x.land(0, 0, 0);
         x.land(8, 1, 1);
         Due.due("one wood", x.cost(0, 8), 34);
         x.land(0, 1, 1);

@@ -15,6 +15,7 @@ public final class LinePromises {
         nextBrought();
         nextWay();
         nextRefused();
+        otherHouse();
         Due.end("line");
     }
 
@@ -242,6 +243,8 @@ public final class LinePromises {
         Due.due("no coin short", x.next(0, 1), 1);
         Due.good(x, 1, "serve=9999*9999");
         Due.due("a lot", x.next(0, 2), 0);
+        Due.good(x, 1, "serve=54-units");
+        Due.due("units are 0", x.next(0, 1), 1);
         x.line(0, 8);
         Due.due("a new stretch", x.left(), 9);
     }
@@ -268,6 +271,30 @@ public final class LinePromises {
         y.land(2, 0, 1);
         Due.due("by 9 now", y.next(0, 1), 0);
         Due.due("none other is there", y.next(0, 2), -5);
+    }
+
+    /** FARM 0 is no MEMBER, and THE HOUSE not in CELL 0. */
+    private static void otherHouse() {
+        CurrentFarms x = new CurrentFarms();
+        x.house(20);
+        x.farm(21, 1);
+        x.farm(22, 1);
+        x.farm(0, 1);
+        x.sign(1, SIGNED, 0, 0);
+        Due.due("left", x.left(), 2);
+        Due.due("farm 0 had to sign, too, for 20 of 20", x.next(1, 2), 0);
+        x.land(21, 0, 1);
+        Due.due("24 of 20", x.next(1, 2), 1);
+        lines(x, 20, 12, 4);
+        Due.due("cell 0 is not on it", x.volt(0), Due.NONE);
+        Due.due("from 20 still", x.next(1, 0), 24);
+        x.sign(2, SIGNED, 0, 0);
+        Due.due("cell 0 is left", x.left(), 6);
+        Due.due("none on the line", x.mile(2), 0);
+        lines(x, 20, 21, 22);
+        Due.due("one of them", x.mile(2), 1);
+        Due.due("a pole on the hill", x.pole(1), 3);
+        Due.due("one stretch", x.pole(0), 2);
     }
 
     private static void nextRefused() {

@@ -13,6 +13,7 @@ public final class RulePromises {
         whichClause();
         refused();
         deepBrackets();
+        afterFaults();
         Due.end("rules");
     }
 
@@ -254,6 +255,24 @@ public final class RulePromises {
         Due.due("units 10000", x.why(0, -1, 0, 10000), Due.BAD);
         Due.due("units 9999", x.why(0, -1, 0, 9999), -5);
         Due.due("rate of 9999", x.force(RATE, 0, 0, 9999), 19998);
+    }
+
+    /** What went wrong with one tape leaves nothing behind for the next. */
+    private static void afterFaults() {
+        CurrentFarms x = new CurrentFarms();
+        x.farm(0, 7);
+        for (int i = 0; i < 40; i++) {
+            Due.due("too many brackets", Due.rule(x, 0, "fee=((1+[2*(" + "1-".repeat(50)), -10 - 112);
+        }
+        Due.good(x, 0, "fee=1+2*(3-1)");
+        Due.due("its worth", x.force(FEE, 0, 0, 0), 5);
+        Due.due("a fault behind it", Due.rule(x, 0, "fee=9;fee=8;fee=7*"), -28);
+        Due.due("no other rule", x.why(FEE, 0, 0, 0), 0);
+        String most = "rate=1" + "+1".repeat(57);
+        for (int i = 1; i < 8; i++) Due.good(x, 0, most);
+        Due.due("of the last one", x.force(RATE, 0, 0, 0), 58);
+        Due.due("a ninth one tried", Due.tried(x, 2, most), 0);
+        Due.due("the eighth stays", x.why(RATE, 0, 0, 0), 700);
     }
 
     /** Brackets as deep as THE TAPE lets them be. */

@@ -7,6 +7,7 @@ public final class StormPromises {
         order();
         orderTies();
         fix();
+        otherHouse();
         spite();
         spiteByRules();
         triedEnough();
@@ -92,6 +93,43 @@ public final class StormPromises {
         Due.due("two", x.fix(), 2);
         Due.due("none now", x.count(6), 0);
         Due.due("down once more", x.storm(2, 3), 1);
+        x.farm(1, 9);
+        x.farm(3, 5);
+        x.sign(0, SERVED, 0, 0);
+        x.sign(1, SERVED, 0, 0);
+        x.storm(1, 1);
+        Due.due("both are dark", x.order(-1), 1 * 9 + 4 * 5);
+        x.fix();
+        x.storm(3, 2);
+        Due.due("farm 0 is dark no more", x.order(-1), 2 * 5);
+    }
+
+    /** THE HOUSE in another CELL, whose way has none of CELL 0. */
+    private static void otherHouse() {
+        CurrentFarms x = new CurrentFarms();
+        x.house(20);
+        x.line(20, 12);
+        x.line(12, 4);
+        x.line(20, 28);
+        for (int c : new int[] {0, 4, 28, 20}) x.farm(c, 7);
+        for (int f = 0; f < 4; f++) x.sign(f, SERVED, 0, 0);
+        Due.due("the way from 4 to 28", x.spite(4, 28, 0), 3);
+        Due.due("the way from 12 to 4", x.spite(12, 4, 0), 1);
+        Due.due("from the house", x.spite(20, 20, 0), 1);
+        x.storm(4, 2);
+        x.storm(28, 3);
+        Due.due("4, then 28", x.order(-1), 2 * 7 + 5 * 7);
+        Due.due("4", x.order(0), 4);
+
+        CurrentFarms y = new CurrentFarms();
+        y.house(20);
+        for (int c : new int[] {0, 22, 14, 1, 38}) y.farm(c, 7);
+        for (int f = 1; f < 5; f++) y.sign(f, SIGNED, 0, 0);
+        Due.due("22 by 21 (20), 14 by 22 (10), 1 by 4 more (50), 38 by 30 (20)", Due.tried(y, 1, "serve=30"), 100);
+        Due.due("1 is too far", Due.tried(y, 1, "serve=29"), 50);
+        Due.due("22 for nothing but its own 20", Due.tried(y, 1, "serve=0-units"), 50);
+        y.sign(0, SIGNED, 0, 0);
+        Due.due("0 first, by 60, then 1 for nothing, 22, 14 and 38", Due.tried(y, 1, "serve=20"), 60 + 50);
     }
 
     private static void spite() {

@@ -7,6 +7,8 @@ public final class VoltPromises {
         volt();
         branches();
         heavy();
+        settling();
+        mostLost();
         refused();
         Due.end("volts");
     }
@@ -98,6 +100,48 @@ public final class VoltPromises {
         m.line(1, 2);
         m.wire(9);
         for (int w = 0; w < 3; w++) Due.due("as the model", y.lose(w), m.lose(w));
+    }
+
+    /** A SWEEP that changes some CELL by 1 is the last one, by 2 it is not. */
+    private static void settling() {
+        CurrentFarms x = new CurrentFarms();
+        x.farm(1, 50);
+        x.sign(0, SERVED, 0, 0);
+        x.line(0, 1);
+        x.wire(2);
+        Due.due("50: 990, 50: 990", x.lose(0), 2);
+        x.wire(4);
+        Due.due("50: 980, 51: 980", x.lose(0), 2);
+        x.wire(6);
+        Due.due("50: 970, 51: 970", x.lose(0), 2);
+        x.wire(9);
+        Due.due("50: 955, 52: 954, which is 1 less", x.lose(0), 2);
+        Due.due("and the last", x.volt(1), 954);
+        x.farm(1, 50);
+        x.sign(1, SERVED, 0, 0);
+        Due.due("100: 910, 108: 903, 110: 901 (2 less), 110: 901", x.lose(0), 4);
+        Due.due("the last of them", x.volt(1), 901);
+    }
+
+    /** FARMS on one way, told as CELL and LOAD, that draw more and more up to the 30th SWEEP. */
+    private static CurrentFarms growing(int stretches, int wire, int[] cells, int[] loads) {
+        CurrentFarms x = new CurrentFarms();
+        for (int i = 0; i < stretches; i++) x.line(i, i + 1);
+        for (int i = 0; i < cells.length; i++) {
+            x.farm(cells[i], loads[i]);
+            x.sign(i, SERVED, 0, 0);
+        }
+        x.wire(wire);
+        return x;
+    }
+
+    private static void mostLost() {
+        CurrentFarms x = growing(5, 8, new int[] {5, 3, 3, 1, 2, 1, 5, 4, 3},
+            new int[] {42, 38, 26, 25, 29, 10, 26, 18, 28});
+        Due.due("30 sweeps", x.lose(0), 30);
+        Due.due("1160936000 is too much", x.lose(2), 1000000000);
+        CurrentFarms y = growing(6, 6, new int[] {}, new int[] {});
+        Due.due("nothing", y.lose(2), 0);
     }
 
     private static void refused() {
