@@ -42,7 +42,7 @@ public final class ImagePromises {
         x.storm(2, 5);
         x.read(0, 2, 33);
         x.pay(0, 3, 11);
-        x.loan(100, 1, 2, 5, 6);
+        x.loan(100, 1, 2, 5, 40);
         return x;
     }
 
@@ -86,6 +86,7 @@ public final class ImagePromises {
     }
 
     private static void change(CurrentFarms x) {
+        x.read(0, 2, 50);
         x.text(0);
         Due.good(x, 0, "take=0;fee=1");
         Due.good(x, 1, "mile=9;fee=1");
@@ -101,7 +102,6 @@ public final class ImagePromises {
         x.storm(10, 9);
         x.line(10, 11);
         x.storm(11, 9);
-        x.read(0, 2, 50);
         x.span(5);
         x.wire(9);
         x.read(1, 2, 99);

@@ -12,11 +12,14 @@ public final class RandomRuns {
     private final List<String> told = new ArrayList<>();
     /** How far off the drawn numbers go: 0 few refusals, 9 many. */
     private final int wild;
+    /** The chapter that half of the run's calls are of. */
+    private final int focus;
     private int wrong = 0;
 
     private RandomRuns(long seed) {
         draw = new Random(seed);
         wild = draw.nextInt(4) == 0 ? 9 : draw.nextInt(3);
+        focus = draw.nextInt(96);
     }
 
     public static void main(String[] args) {
@@ -168,7 +171,7 @@ public final class RandomRuns {
     private void feed(long w, int n) { due("feed(" + w + "L, " + n + ")", real.feed(w, n), model.feed(w, n)); }
 
     private void step() {
-        int kind = draw.nextInt(100);
+        int kind = draw.nextBoolean() ? focus : draw.nextInt(100);
         if (kind < 18) landStep();
         else if (kind < 36) bookStep();
         else if (kind < 50) ruleStep();

@@ -120,6 +120,10 @@ public final class StormPromises {
         x.storm(28, 3);
         Due.due("4, then 28", x.order(-1), 2 * 7 + 5 * 7);
         Due.due("4", x.order(0), 4);
+        x.fix();
+        for (int[] s : new int[][] {{20, 19}, {19, 18}, {18, 17}, {17, 16}, {16, 8}, {8, 0}}) x.line(s[0], s[1]);
+        Due.due("cell 0 is down", x.storm(0, 2), 1);
+        Due.due("farm 0 alone is dark", x.order(-1), 2 * 7);
 
         CurrentFarms y = new CurrentFarms();
         y.house(20);
@@ -128,6 +132,9 @@ public final class StormPromises {
         Due.due("22 by 21 (20), 14 by 22 (10), 1 by 4 more (50), 38 by 30 (20)", Due.tried(y, 1, "serve=30"), 100);
         Due.due("1 is too far", Due.tried(y, 1, "serve=29"), 50);
         Due.due("22 for nothing but its own 20", Due.tried(y, 1, "serve=0-units"), 50);
+        Due.due("units are 0", Due.tried(y, 1, "serve=30-units*9"), 100);
+        y.farm(28, 7);
+        Due.due("no member is not brought in", Due.tried(y, 1, "serve=30"), 100);
         y.sign(0, SIGNED, 0, 0);
         Due.due("0 first, by 60, then 1 for nothing, 22, 14 and 38", Due.tried(y, 1, "serve=20"), 60 + 50);
     }
