@@ -85,21 +85,9 @@ public final class VoltPromises {
         x.wire(3);
         Due.due("500 times 3 by 10, seven times, are too much for 1000", x.lose(1), 0);
 
-        CurrentFarms y = new CurrentFarms();
-        y.farm(1, 50);
-        for (int i = 0; i < 4; i++) y.farm(2, 50);
-        for (int i = 0; i < 5; i++) y.sign(i, SERVED, 0, 0);
-        y.line(0, 1);
-        y.line(1, 2);
-        y.wire(9);
-        Model m = new Model();
-        m.farm(1, 50);
-        for (int i = 0; i < 4; i++) m.farm(2, 50);
-        for (int i = 0; i < 5; i++) m.sign(i, SERVED, 0, 0);
-        m.line(0, 1);
-        m.line(1, 2);
-        m.wire(9);
-        for (int w = 0; w < 3; w++) Due.due("as the model", y.lose(w), m.lose(w));
+        CurrentFarms y = growing(2, 9, new int[] {1, 2, 2, 2, 2}, new int[] {50, 50, 50, 50, 50});
+        Due.due("775 and 595, 640 and 338, 401 and -128, 889 and 889, and so on", y.lose(0), 30);
+        Due.due("up and down", y.lose(1), 0);
     }
 
     /** A SWEEP that changes some CELL by 1 is the last one, by 2 it is not. */
